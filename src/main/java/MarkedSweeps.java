@@ -548,7 +548,8 @@ public final class MarkedSweeps {
     }
 
     private boolean isNet(int k) {
-        followNets();
+        plane.follow(board);
+        nets.follow(plane, board);
         return k >= 0 && k < nets.size;
     }
 

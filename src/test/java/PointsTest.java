@@ -7,6 +7,7 @@ public final class PointsTest {
         place();
         drop();
         move();
+        moveAll();
         at();
         mark();
         markOf();
@@ -100,6 +101,22 @@ public final class PointsTest {
         x.mark(1, 3, 2);
         due.is("4: BARRED may CROSS", x.move(1, 11, 1), 1);
         due.is("4: new nets", x.nets(), 1);
+    }
+
+    /** All POINTS come to lie elsewhere before anything is asked that hangs on where they lie. */
+    private static void moveAll() {
+        int[][] first = {{-5, 2}, {6, 3}, {1, 9}};
+        for (int axis = 0; axis < 2; axis++) {
+            MarkedSweeps x = Due.points(-5, 2, 6, 3, 1, 9);
+            due.is("4: at first", x.turn(0, 1, 2), 1);
+            for (int i = 0; i < 3; i++) {
+                int px = axis == 0 ? -first[i][0] : first[i][0];
+                int py = axis == 1 ? -first[i][1] : first[i][1];
+                due.is("4: to the other side", x.move(i, px, py), 1);
+            }
+            due.is("4: all turned over", x.turn(0, 1, 2), -1);
+            due.is("4: THE HULL", x.hull(0), axis == 0 ? 1 : 0);
+        }
     }
 
     private static void at() {
