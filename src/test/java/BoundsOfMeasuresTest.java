@@ -120,7 +120,8 @@ public final class BoundsOfMeasuresTest {
         }
         twins.answer("25: the first", BoundsOfMeasuresTest::full, x -> x.stepOf(0, 0), 0);
         twins.answer("25: the last, its sort", BoundsOfMeasuresTest::full, x -> x.stepOf(7, 0), 0);
-        twins.answer("25: the last, its number", BoundsOfMeasuresTest::full, x -> x.stepOf(7, 1), 7);
+        twins.answer("25: the last, its number", BoundsOfMeasuresTest::full, x -> x.stepOf(7, 1),
+            7);
         MarkedSweeps cleared = full();
         cleared.clear();
         due.is("25: they are gone", cleared.stepOf(0, 0), Due.BEYOND);
@@ -381,7 +382,6 @@ public final class BoundsOfMeasuresTest {
 
     /** Three EDGES of one measure, made by STEPS from rule 0: their sum at the bound of longs. */
     private static MarkedSweeps thrice(boolean minus, int more) {
-        // 99^9 and so on: the third of the greatest long is 3074457345618258602.
         MarkedSweeps x = Due.bow(3);
         int[][] steps = {{0, 7}, {6, 0}, {6, 0}, {6, 0}, {1, 99}, {6, 0}};
         for (int[] s : steps) {
@@ -392,7 +392,7 @@ public final class BoundsOfMeasuresTest {
         return x;
     }
 
-    /** "0 the sum of MEASURES of its EDGES (by their numbers, from 0 on)": OVER on the way alone. */
+    /** "0 the sum of MEASURES of its EDGES": just a long, and just none any more. */
     private static void ofNetSum() {
         // (8^8 * 99)^2 is 2.76e18: three of them are no more than a long, four would be.
         BigInteger each = BigInteger.valueOf(16777216L * 99).pow(2);

@@ -17,6 +17,7 @@ public final class BoundsOfPointsTest {
         moveBeyond();
         moveState();
         moveMust();
+        moveMustEach();
         moveInOrder();
         atBeyond();
         markBeyond();
@@ -218,7 +219,8 @@ public final class BoundsOfPointsTest {
     private static void moveState() {
         int[][] same = {{20, 1}, {18, 19}, {2, 17}, {9, 7}, {11, 12}};
         for (int[] p : same) {
-            twins.refuse("4: the same as another", Due::rich, x -> x.move(0, p[0], p[1]), Due.STATE);
+            twins.refuse("4: the same as another", Due::rich, x -> x.move(0, p[0], p[1]),
+                Due.STATE);
         }
         twins.refuse("4: on a line with two", Due::rich, x -> x.move(3, 13, 17), Due.STATE);
         twins.refuse("4: on a line with the first and the last", () -> Due.bow(9),
@@ -261,6 +263,45 @@ public final class BoundsOfPointsTest {
         due.is("4: those with an end in common never CROSS", joined.move(2, 1, -30), 1);
     }
 
+    /** Each two EDGES that can CROSS, also those of neighbouring numbers: (0, 8) and (1, 2). */
+    private static void moveMustEach() {
+        int pairs = 0;
+        for (int e = 0; e < 36; e++) {
+            for (int f = 0; f < 36; f++) {
+                int[] one = Reference.ends(e);
+                int[] other = Reference.ends(f);
+                boolean apart = one[0] != other[0] && one[0] != other[1] && one[1] != other[0]
+                    && one[1] != other[1];
+                if (apart) {
+                    pairs++;
+                    moveAcross(one, other);
+                }
+            }
+        }
+        due.is("4: each two", pairs, 756);
+    }
+
+    /** The second EDGE stands above the first until its later end comes to lie below that. */
+    private static void moveAcross(int[] one, int[] other) {
+        int[][] far = {{-97, 40}, {-90, 71}, {60, 88}, {83, 17}, {95, 53}};
+        MarkedSweeps x = new MarkedSweeps();
+        int next = 0;
+        for (int i = 0; i < 9; i++) {
+            int[] p = i == one[0] ? new int[] {-20, 0} : i == one[1] ? new int[] {20, 1}
+                : i == other[0] ? new int[] {-1, 30} : i == other[1] ? new int[] {2, 9}
+                : far[next++];
+            due.is("4: placed", x.place(p[0], p[1]), i);
+        }
+        due.is("4: MUST", x.mark(one[0], one[1], 1), 0);
+        due.is("4: MUST", x.mark(other[0], other[1], 1), 0);
+        due.is("4: would CROSS", x.move(other[1], 3, -7), Due.STATE);
+        due.is("4: stays", x.at(other[1], 1), 9);
+        x.mark(other[1], other[0], 0);
+        due.is("4: would not", x.move(other[1], 3, -7), 1);
+        due.is("6: now they CROSS", x.mark(other[0], other[1], 1), Due.STATE);
+        due.is("9: they do", x.crosses(one[0], one[1], other[0], other[1]), 1);
+    }
+
     /** In their order: BEYOND, STATE. */
     private static void moveInOrder() {
         twins.refuse("4: no such POINT, the same", Due::rich, x -> x.move(6, 0, 0), Due.BEYOND);
@@ -292,6 +333,7 @@ public final class BoundsOfPointsTest {
         for (int i = 0; i < 2; i++) {
             int j = i;
             twins.answer("5: of one", () -> Due.points(7, 7), x -> x.at(0, 2 + j), j);
+            twins.answer("5: of one at (0, 0)", () -> Due.points(0, 0), x -> x.at(0, 2 + j), j);
             twins.answer("5: of two", () -> Due.points(7, 7, 7, 6), x -> x.at(j, 2), 1 - j);
             twins.answer("5: of two", () -> Due.points(7, 7, 7, 6), x -> x.at(j, 3), 1);
         }
@@ -434,6 +476,8 @@ public final class BoundsOfPointsTest {
         twins.answer("10: of one", () -> Due.points(3, 3), x -> x.hull(-1), 1);
         twins.answer("10: of one", () -> Due.points(3, 3), x -> x.hull(0), 0);
         twins.refuse("10: of one", () -> Due.points(3, 3), x -> x.hull(1), Due.NONE);
+        twins.answer("10: of one at (0, 0)", () -> Due.points(0, 0), x -> x.hull(-1), 1);
+        twins.answer("10: of one at (0, 0)", () -> Due.points(0, 0), x -> x.hull(0), 0);
         twins.answer("10: of two", () -> Due.points(3, 3, 3, 2), x -> x.hull(-1), 2);
         twins.answer("10: of two", () -> Due.points(3, 3, 3, 2), x -> x.hull(0), 1);
         twins.answer("10: of two", () -> Due.points(3, 3, 3, 2), x -> x.hull(1), 0);

@@ -200,7 +200,8 @@ public final class BoundsOfPolygonsTest {
 
     /** "EDGES between its POINTS that run inside it". */
     private static void splitsDented() {
-        Supplier<MarkedSweeps> dart = laid(() -> Due.points(0, 0, 10, 0, 4, 3, 0, 10), 0, 0, 1, 2, 3);
+        Supplier<MarkedSweeps> dart =
+            laid(() -> Due.points(0, 0, 10, 0, 4, 3, 0, 10), 0, 0, 1, 2, 3);
         answer("a dart: the outer one doesn't", dart, 1, 70, 0);
         Supplier<MarkedSweeps> hidden = laid(
             () -> Due.points(0, 0, 20, 1, 19, 12, 10, 3, 1, 11, 9, 9), 0, 0, 1, 2, 3, 4);
@@ -226,7 +227,8 @@ public final class BoundsOfPolygonsTest {
                 laid(() -> Due.points(0, 0, 20, 0, 20, 20, 0, 20, d, 1), 0, 0, 1, 2, 3), 2, 800,
                 d == 1 ? 0 : 16);
             answer("just outside a side",
-                laid(() -> Due.points(0, 0, 20, 0, 20, 20, 0, 20, d, -1), 0, 0, 1, 2, 3), 2, 800, 0);
+                laid(() -> Due.points(0, 0, 20, 0, 20, 20, 0, 20, d, -1), 0, 0, 1, 2, 3), 2, 800,
+                0);
         }
         twins.answer("33: six of nine", laid(Due::tent, 0, 0, 1, 2), x -> x.within(3), 504);
         twins.answer("33: the other way round", laid(Due::tent, 0, 2, 1, 0), x -> x.within(3), 504);

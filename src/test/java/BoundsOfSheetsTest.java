@@ -167,7 +167,8 @@ public final class BoundsOfSheetsTest {
     private static void writeNoSuchNumber() {
         int[] none = {-1, 5, 6, 39, 40, Due.MOST, Due.LEAST};
         for (int i : none) {
-            twins.refuse("40: write(1, " + i + ", 1)", Due::rich, x -> x.write(1, i, 1), Due.BEYOND);
+            twins.refuse("40: write(1, " + i + ", 1)", Due::rich, x -> x.write(1, i, 1),
+                Due.BEYOND);
         }
         MarkedSweeps x = Due.rich();
         due.is("40: the first", x.write(1, 0, 100), 1);

@@ -126,7 +126,7 @@ public final class BoundsOfTermsTest {
         due.is("order: THE HULL begins with the first", x.hull(0), 4);
     }
 
-    /** "TURN of a, b, c: 1 (left), if .. is above 0, else -1 (right)": nearest to 0, and farthest. */
+    /** "TURN of a, b, c: 1 (left), if .. is above 0, else -1 (right)": nearest to 0, farthest. */
     private static void turns() {
         MarkedSweeps near = Due.points(0, 0, 1, 0, 0, 1);
         due.is("turn: by 1", near.turn(0, 1, 2), 1);
@@ -140,7 +140,8 @@ public final class BoundsOfTermsTest {
     private static void edgeNumbers() {
         due.is("edges: of three POINTS", Due.bow(3).net(0), 1L | 1L << 1 | 1L << 8);
         due.is("edges: of THE HULL of nine", Due.bow(9).always(0),
-            1L | 1L << 7 | 1L << 8 | 1L << 15 | 1L << 21 | 1L << 26 | 1L << 30 | 1L << 33 | 1L << 35);
+            1L | 1L << 7 | 1L << 8 | 1L << 15 | 1L << 21 | 1L << 26 | 1L << 30 | 1L << 33
+            | 1L << 35);
         due.is("edges: all of nine", Due.bow(9).always(1), (1L << 36) - 1);
         for (int last = 1; last < 9; last++) {
             MarkedSweeps x = Due.bow(last + 1);
@@ -155,7 +156,7 @@ public final class BoundsOfTermsTest {
         due.is("edges: 35 is (7, 8)", x.nets(), 0);
     }
 
-    /** "Two EDGES CROSS, if they have no POINT in common and the ends of each lie on unlike sides." */
+    /** "no POINT in common and the ends of each lie on unlike sides of the other". */
     private static void crossing() {
         MarkedSweeps x = Due.points(-10, 0, 10, 0, 0, 1, 0, -1, 30, 1, 30, -3);
         due.is("cross: both parted", x.crosses(0, 1, 2, 3), 1);
@@ -229,21 +230,22 @@ public final class BoundsOfTermsTest {
 
     /** "NETS are numbered from 0 on, the one that is the least number first": as longs. */
     private static void leastNumberFirst() {
-        MarkedSweeps x = Due.crowd();
-        due.is("least first: how many", x.nets(), 780);
+        due.is("least first: how many", Due.crowd().nets(), 780);
         boolean beyondInts = false;
-        for (int k = 1; k < 500; k++) {
-            due.is("least first: " + k, x.net(k - 1) < x.net(k) ? 1 : 0, 1);
-        }
-        MarkedSweeps y = Due.crowd();
-        for (int k = 500; k < 780; k++) {
-            due.is("least first: " + k, y.net(k - 1) < y.net(k) ? 1 : 0, 1);
-            beyondInts = beyondInts || y.net(k) >>> 32 != y.net(0) >>> 32;
+        long before = -1;
+        for (int from = 0; from < 780; from += 390) {
+            MarkedSweeps x = Due.crowd();
+            for (int k = from; k < from + 390; k++) {
+                long net = x.net(k);
+                due.is("least first: " + k, net > before ? 1 : 0, 1);
+                beyondInts = beyondInts || k > 0 && net >>> 32 != before >>> 32;
+                before = net;
+            }
         }
         due.is("least first: by what no int holds", beyondInts ? 1 : 0, 1);
     }
 
-    /** "TRIANGLES of a NET: three POINTS, all EDGES of which it has, none other being WITHIN them." */
+    /** "three POINTS, all EDGES of which it has, none other being WITHIN them". */
     private static void triangles() {
         MarkedSweeps x = Due.points(0, 0, 10, 0, 3, 10, 4, 3);
         for (int i = 0; i < 3; i++) {
@@ -269,7 +271,7 @@ public final class BoundsOfTermsTest {
         due.is("hull: moved just in", Due.points(0, 0, 10, 0, 5, 9, 5, 1).at(3, 3), 0);
     }
 
-    /** "if a, b, c and a, b, d are TRIANGLES of it and EDGE c, d CROSSES it, .. if that makes a NET." */
+    /** "if a, b, c and a, b, d are TRIANGLES .. and EDGE c, d CROSSES it, .. makes a NET". */
     private static void flips() {
         MarkedSweeps convex = Due.points(0, 0, 10, -1, 10, 10, 0, 10);
         due.is("flips: one", convex.flips(0), Due.edge(0, 2));

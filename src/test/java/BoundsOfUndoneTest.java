@@ -100,62 +100,72 @@ public final class BoundsOfUndoneTest {
         due.is("43: none", x.undo(), Due.NONE);
     }
 
-    /** Any CHANGE that can be made, by a fixed seed. */
-    private static void changeOnce(MarkedSweeps x, Random random) {
-        int points = Math.max(1, x.count(0));
-        int px = random.nextInt(199) - 99;
+    /** Any of the six, by a fixed seed; some will be refused. */
+    private static ToLongFunction<MarkedSweeps> aChange(Random random) {
+        int px = random.nextInt(203) - 101;
         int py = random.nextInt(199) - 99;
-        int i = random.nextInt(points);
-        int j = random.nextInt(points);
+        int i = random.nextInt(7);
+        int j = random.nextInt(7);
+        int v = random.nextInt(3);
         switch (random.nextInt(10)) {
-            case 0: case 1: case 2: x.place(px, py); break;
-            case 3: x.drop(); break;
-            case 4: x.move(i, px, py); break;
-            case 5: case 6: x.mark(i, j, random.nextInt(3)); break;
-            case 7: case 8: x.step(random.nextInt(7), px); break;
-            default: x.clear(); break;
+            case 0: case 1: case 2: return x -> x.place(px, py);
+            case 3: return x -> x.drop();
+            case 4: return x -> x.move(i, px, py);
+            case 5: case 6: return x -> x.mark(i, j, v);
+            case 7: case 8: return x -> x.step(i, py);
+            default: return x -> x.clear();
         }
     }
 
-    /** "all POINTS, MARKS, STEPS are as ahead of it": back and forth, each looked at whole. */
+    /** A new object by which all these CHANGES, and no others, were made. */
+    private static MarkedSweeps by(List<ToLongFunction<MarkedSweeps>> changes) {
+        MarkedSweeps x = new MarkedSweeps();
+        for (ToLongFunction<MarkedSweeps> change : changes) {
+            change.applyAsLong(x);
+        }
+        return x;
+    }
+
+    /**
+     * "all POINTS, MARKS, STEPS are as ahead of it": back and forth; at the end all is as if what
+     * was undone had never been.
+     */
     private static void undoAsAhead() {
-        for (int run = 0; run < 60; run++) {
+        for (int run = 0; run < 400; run++) {
             Random random = new Random(run);
             MarkedSweeps x = new MarkedSweeps();
-            List<String> ahead = new ArrayList<>();
-            for (int at = 0; at < 150; at++) {
-                if (random.nextInt(run % 3 == 0 ? 3 : 20) == 0) {
-                    undoOnce(x, ahead);
+            List<ToLongFunction<MarkedSweeps>> made = new ArrayList<>();
+            int can = 0;
+            int seldom = run % 3 == 0 ? 2 : run % 3 == 1 ? 4 : 30;
+            for (int at = random.nextInt(270); at >= 0; at--) {
+                if (random.nextInt(seldom) == 0) {
+                    can = undoOnce(x, made, can);
                     continue;
                 }
-                String was = Twins.board(x);
-                int findings = x.status(-1);
-                changeOnce(x, random);
-                if (x.status(-1) == findings) {
-                    ahead.add(was);
-                } else {
-                    due.same("43: a finding changes nothing", Twins.board(x), was);
+                ToLongFunction<MarkedSweeps> change = aChange(random);
+                if (change.applyAsLong(x) > Due.BEYOND) {
+                    made.add(change);
+                    can = Math.min(can + 1, 40);
                 }
-                if (ahead.size() > 40) {
-                    ahead.remove(0);
-                }
-                due.is("45: CHANGES", x.count(2), ahead.size());
             }
-            while (!ahead.isEmpty()) {
-                undoOnce(x, ahead);
+            due.same("43: as ahead of it", Twins.board(x), Twins.board(by(made)));
+            while (can > 0) {
+                can = undoOnce(x, made, can);
             }
-            undoOnce(x, ahead);
+            due.is("43: none can", x.undo(), Due.NONE);
+            due.same("43: the older ones stay", Twins.board(x), Twins.board(by(made)));
         }
     }
 
-    private static void undoOnce(MarkedSweeps x, List<String> ahead) {
-        if (ahead.isEmpty()) {
+    /** How many can still be undone then. */
+    private static int undoOnce(MarkedSweeps x, List<ToLongFunction<MarkedSweeps>> made, int can) {
+        if (can == 0) {
             due.is("43: none can", x.undo(), Due.NONE);
-            return;
+            return 0;
         }
-        String want = ahead.remove(ahead.size() - 1);
-        due.is("43: how many can still be", x.undo(), ahead.size());
-        due.same("43: as ahead of it", Twins.board(x), want);
+        made.remove(made.size() - 1);
+        due.is("43: how many can still be", x.undo(), can - 1);
+        return can - 1;
     }
 
     private static void undone(String name, ToLongFunction<MarkedSweeps> change, long want) {

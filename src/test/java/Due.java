@@ -68,7 +68,7 @@ final class Due {
         return points(73, 31, -21, 50, -25, 52, -27, 74, -7, 29, 66, 31, -62, 9, -30, 99, -95, -17);
     }
 
-    /** Something of everything: six POINTS, MARKS, STEPS, ROWS, SHEETS 0 to 2, findings, an undo. */
+    /** Something of everything: POINTS, MARKS, STEPS, ROWS, SHEETS 0 to 2, findings, an undo. */
     static MarkedSweeps rich() {
         MarkedSweeps made = points(0, 0, 20, 1, 18, 19, 2, 17, 9, 7, 11, 12);
         made.mark(0, 4, 1);

@@ -104,7 +104,8 @@ public final class FaceTest {
                     ? code.matches(".*\\b" + word + "\\b.*") : code.contains(word);
                 told(!there, "'" + word + "' in: " + row);
             }
-            boolean library = code.startsWith("import ") && !code.equals("import java.util.Arrays;");
+            boolean library = code.startsWith("import ")
+                && !code.equals("import java.util.Arrays;");
             told(!library, "library: " + row);
             for (char c : row.toCharArray()) {
                 told(c < 128, "sign " + (int) c + " in: " + row);

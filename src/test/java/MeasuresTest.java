@@ -222,7 +222,8 @@ public final class MeasuresTest {
         due.is("30: fourth powers", one.best(1, 1), 1);
         one.step(6, 0);
         due.is("30: of the one that is OVER", one.ofNet(0, 1, 1), Due.LONG_OVER);
-        due.is("30: of the other", one.ofNet(1, 1, 1), 181L * 181 * 181 * 181 * 181 * 181 * 181 * 181);
+        long squared = 181L * 181;
+        due.is("30: of the other", one.ofNet(1, 1, 1), squared * squared * squared * squared);
         due.is("30: OVER of any", one.best(1, 1), Due.OVER);
         one.mark(0, 2, 2);
         due.is("30: an EDGE of no NET may be OVER", one.best(1, 1), 0);

@@ -25,12 +25,7 @@ public final class NetsTest {
         for (int n = 0; n <= 9; n++) {
             due.is("11: a bow of " + n, Due.bow(n).nets(), catalan[n]);
         }
-        MarkedSweeps most = Due.points(73, 31, -21, 50, -25, 52, -27, 74, -7, 29, 66, 31, -62, 9,
-            -30, 99, -95, -17);
-        due.is("11: the most that nine have", most.nets(), 780);
-        for (int k = 1; k < 780; k++) {
-            due.is("12: they rise", most.net(k - 1) < most.net(k) ? 1 : 0, 1);
-        }
+        due.is("11: the most that nine have", Due.crowd().nets(), 780);
         MarkedSweeps x = Due.square();
         due.is("11: nets()", x.nets(), 2);
         x.mark(0, 2, 2);
@@ -76,9 +71,11 @@ public final class NetsTest {
         MarkedSweeps none = Due.points(0, 0, 5, 7);
         due.is("12: of two POINTS", none.net(0), Due.LONG_NONE);
         due.is("13: of two POINTS", none.rank(1), Due.NONE);
-        MarkedSweeps bow = Due.bow(9);
-        for (int k = 0; k < 429; k++) {
-            due.is("13: rank of net " + k, bow.rank(bow.net(k)), k);
+        for (int from = 0; from < 429; from += 143) {
+            MarkedSweeps bow = Due.bow(9);
+            for (int k = from; k < from + 143; k++) {
+                due.is("13: rank of net " + k, bow.rank(bow.net(k)), k);
+            }
         }
     }
 
